@@ -1593,46 +1593,40 @@ public final class PatentRaces {
         int winners;
         int paid;
         int stillIn;
-        private long[] here = new long[STATES];
-        private long[] there = new long[STATES];
+        /** By weeks left and STATE, how much of the chance comes there. */
+        private final long[] masses = new long[(WEEKS + 1) * STATES];
 
         /** By chance, all in SCALE. */
         void walk(Board board) {
             Race race = board.race;
-            clearWalk(race);
+            clearWalk();
+            nobody = race.scale(race.weeks);
+            masses[race.weeks * STATES + race.beginning()] = 1;
             for (int left = race.weeks; left >= 1; left--) {
+                // Where nobody is IN, at 0, the race is OVER.
                 for (int code = 1; code < STATES; code++) {
-                    if (here[code] > 0) {
+                    if (masses[left * STATES + code] > 0) {
                         walkFrom(board, left, code);
                     }
-                    here[code] = 0;
                 }
-                long[] past = here;
-                here = there;
-                there = past;
-                // Where nobody is IN the race is OVER.
-                here[0] = 0;
             }
         }
 
-        private void clearWalk(Race race) {
+        private void clearWalk() {
             for (int i = 0; i < SHOPS; i++) {
                 firsts[i] = 0;
             }
-            for (int code = 0; code < STATES; code++) {
-                here[code] = 0;
-                there[code] = 0;
+            for (int place = 0; place < masses.length; place++) {
+                masses[place] = 0;
             }
             lateness = 0;
             wasted = 0;
-            nobody = race.scale(race.weeks);
-            here[race.beginning()] = 1;
         }
 
         private void walkFrom(Board board, int left, int code) {
             Race race = board.race;
             Week week = board.week;
-            long mass = here[code];
+            long mass = masses[left * STATES + code];
             week.open(left, code);
             week.takeRow(board.rowAt(left, code));
             lateness += mass * race.scale(left);
@@ -1643,7 +1637,7 @@ public final class PatentRaces {
                 if (part > 0) {
                     int modes = week.modesOf(made);
                     if (week.won[modes] == 0) {
-                        there[week.ahead[modes]] += part;
+                        masses[(left - 1) * STATES + week.ahead[modes]] += part;
                     } else {
                         noteWinners(week.won[modes], part * race.scale(left - 1));
                     }
