@@ -42,6 +42,7 @@ public final class LanguageTest {
         classes();
         words(text);
         methods(text);
+        room();
         System.out.println(wrong == 0 ? "the rules are kept" : wrong + " rules are not kept");
         if (wrong > 0) {
             System.exit(1);
@@ -130,6 +131,35 @@ public final class LanguageTest {
             boolean inConstructor = line.contains("images[i] = new Desk()") || line.contains("this.week = new Week(race)");
             check(!line.contains("new ") || field || inConstructor || line.contains("throw new "), "rule 12: " + line.trim());
         }
+    }
+
+    /** All that an object holds: calls make no more, so this is what one takes of the room. */
+    private static void room() throws IllegalAccessException {
+        Set<Object> seen = java.util.Collections.newSetFromMap(new java.util.IdentityHashMap<>());
+        long elements = measure(new PatentRaces(), seen);
+        check(seen.size() < 200 && elements < 30_000, "the room: " + seen.size() + " objects, " + elements + " elements");
+    }
+
+    private static long measure(Object o, Set<Object> seen) throws IllegalAccessException {
+        if (o == null || !seen.add(o)) {
+            return 0;
+        }
+        long elements = 0;
+        if (o.getClass().isArray()) {
+            elements += java.lang.reflect.Array.getLength(o);
+            for (int i = 0; i < elements && o instanceof Object[] row && i < row.length; i++) {
+                elements += measure(row[i], seen);
+            }
+            return elements;
+        }
+        for (Field f : o.getClass().getDeclaredFields()) {
+            if (!Modifier.isStatic(f.getModifiers())) {
+                elements++;
+                f.setAccessible(true);
+                elements += f.getType().isPrimitive() ? 0 : measure(f.get(o), seen);
+            }
+        }
+        return elements;
     }
 
     private static void methods(String text) {

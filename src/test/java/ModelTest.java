@@ -140,7 +140,7 @@ public final class ModelTest {
     /** Small ones, so that the model can keep up, with costs near what a step is worth. */
     private String raceText() {
         int shops = 1 + random.nextInt(3);
-        int weeks = 1 + random.nextInt(shops == 3 ? 3 : 5);
+        int weeks = 1 + random.nextInt(shops == 3 ? 3 : 6);
         int cost = 1 + random.nextInt(12);
         StringBuilder text = new StringBuilder();
         for (int i = 0; i < shops; i++) {

@@ -238,7 +238,9 @@ public final class PromisesTest {
         faulty("sell ownn<2;", 1, 5);
         faulty("sell not not not not not not not own<2;", 3, 29);
         faulty("sell ((((((1))))))<((((((2))))))and[[[[[[(1", 3, 41);
-        faulty("sell not[not[not[not own<2", 3, 17);
+        faulty("sell not[not[not[  not own<2", 3, 19);
+        faulty("sell [[[[[[ [ own<2", 3, 12);
+        faulty("sell ((((((   (own", 3, 14);
         faulty("sell [not[([(own", 1, 11);
         PatentRaces x = of(ONE);
         due(-1, "fault() after a good one", x::fault);
@@ -363,6 +365,9 @@ public final class PromisesTest {
         PatentRaces one = of("shop 1 pace 0 at 4;shop 1 pace 0 at 4;weeks 1;prize 1;");
         due(0, "SHOP by SHOP", () -> one.doing(1, 11, 3, 0));
         due(1, "SHOP by SHOP", () -> one.doing(1, 11, 3, 1));
+        PatentRaces six = of(LEAVING + "weeks 6;leave week = 6;");
+        due(0, "leave does not hold in the fifth week", () -> six.doing(5, 221, 7, 2));
+        due(4, "leave holds in the sixth week", () -> six.doing(6, 221, 7, 2));
         // By "leave" SHOP 2 may go just if its own STEPS are 1.
         PatentRaces may = of(LEAVING + "leave own = 1 and week = 1 and next = 1;");
         due(0, "leave does not hold", () -> may.doing(1, 221, 7, 2));
