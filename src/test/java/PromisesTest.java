@@ -175,6 +175,21 @@ public final class PromisesTest {
             put(x, "shop 1;shop 1;shop 1;");
             return x.race(7);
         });
+        due(-9, "a number that n cuts", () -> {
+            put(x, "shop 12;shop 1;");
+            return x.race(6);
+        });
+        due(6, "fault()", x::fault);
+        due(-9, "a word that n cuts", () -> {
+            put(x, "shop 1 pace 1 at 1;");
+            return x.race(9);
+        });
+        due(7, "fault()", x::fault);
+        due(-9, "a clause that n cuts", () -> {
+            put(x, "shop 1;");
+            return x.race(6);
+        });
+        due(6, "fault()", x::fault);
         due(9, "after a good one the state is that of the new RACE", () -> {
             tell(x, "shop 1 pace 1 at 4;prize 10;weeks 1;");
             return x.worth(1, 1, 1, 0) / 4;
