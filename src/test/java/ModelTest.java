@@ -9,6 +9,9 @@ public final class ModelTest {
         "pace", "at", "or", "and", "not", "[", "]", "(", ")", "<", ">", "=", "+", "-", "*", ";", "own", "next", "1", "2", "0",
         "9999", "10000", "5", "99999999999999999999", " ", "  ", "Z", "\t", "shops", "\u00e9"};
 
+    private static final int[] FAR = {Integer.MIN_VALUE, Integer.MIN_VALUE + 1, -65536, -1000, -2, 7, 8, 9, 10, 16, 31, 32, 64, 100, 500, 1000,
+        1111, 9999, 10000, 65536, 1 << 30, Integer.MAX_VALUE - 1, Integer.MAX_VALUE};
+
     private final Random random;
     private final PatentRaces real = new PatentRaces();
     private final Model model = new Model();
@@ -77,6 +80,9 @@ public final class ModelTest {
             return most + 1;
         }
         if (kind == 2) {
+            return FAR[random.nextInt(FAR.length)];
+        }
+        if (kind == 3) {
             return random.nextInt();
         }
         return least + random.nextInt(most - least + 1);

@@ -1,18 +1,5 @@
-import java.nio.ByteBuffer;
-import java.nio.charset.StandardCharsets;
-import java.util.Arrays;
-import java.util.NoSuchElementException;
-
 /** For each promise of the document calls with the answers that are due, worked by hand. */
-public final class PromisesTest {
-    interface Call {
-        long get();
-    }
-
-    private static final Class<?> STATE = IllegalStateException.class;
-    private static final Class<?> ARGUMENT = IllegalArgumentException.class;
-    private static final Class<?> ELEMENT = NoSuchElementException.class;
-
+public final class PromisesTest extends Checks {
     /** One SHOP: half a chance for 3, a prize of 10, two weeks. */
     private static final String ONE = "shop 1 pace 3 at 2;prize 10;weeks 2;";
 
@@ -25,58 +12,6 @@ public final class PromisesTest {
 
     /** The second prize of 1 can't be parted: of the two that are behind one leaves it to the other. */
     private static final String LEAVING = "shop 1 pace 0 at 4;shop 2;shop 2;prize 4 second 1;weeks 1;";
-
-    private static int promise;
-    private static int wrong;
-
-    private static void due(long want, String what, Call call) {
-        String got;
-        try {
-            got = String.valueOf(call.get());
-        } catch (RuntimeException e) {
-            got = e.toString();
-        }
-        check(got.equals(String.valueOf(want)), what + " answered " + got + ", due is " + want);
-    }
-
-    private static void thrown(Class<?> want, String what, Call call) {
-        String got;
-        try {
-            got = String.valueOf(call.get());
-        } catch (RuntimeException e) {
-            got = e.getClass().getName();
-        }
-        check(got.equals(want.getName()), what + " answered " + got + ", due is " + want.getName());
-    }
-
-    private static void check(boolean right, String text) {
-        if (!right) {
-            wrong++;
-            System.out.println("promise " + promise + ": " + text);
-        }
-    }
-
-    /** Puts a text on the TAPE. */
-    private static int put(PatentRaces x, String text) {
-        byte[] bytes = text.getBytes(StandardCharsets.ISO_8859_1);
-        int feeds = (bytes.length + 19) / 20;
-        ByteBuffer buffer = ByteBuffer.wrap(Arrays.copyOf(bytes, feeds * 20));
-        for (int i = 0; i < feeds; i++) {
-            x.feed(buffer.getInt(), buffer.getInt(), buffer.getInt(), buffer.getInt(), buffer.getInt());
-        }
-        return bytes.length;
-    }
-
-    private static int tell(PatentRaces x, String text) {
-        return x.race(put(x, text));
-    }
-
-    private static PatentRaces of(String text) {
-        PatentRaces x = new PatentRaces();
-        int shops = tell(x, text);
-        check(shops > 0, "\"" + text + "\" was read as " + shops + " at " + x.fault());
-        return x;
-    }
 
     public static void main(String[] args) {
         newObject();
@@ -113,14 +48,11 @@ public final class PromisesTest {
         restore();
         count();
         noRace();
-        System.out.println(wrong == 0 ? "all promises are kept" : wrong + " answers are not as due");
-        if (wrong > 0) {
-            System.exit(1);
-        }
+        end("all promises are kept");
     }
 
     private static void newObject() {
-        promise = 1;
+        about("promise 1");
         PatentRaces x = new PatentRaces();
         for (int what = 0; what <= 6; what++) {
             int w = what;
@@ -136,7 +68,7 @@ public final class PromisesTest {
     }
 
     private static void feed() {
-        promise = 2;
+        about("promise 2");
         PatentRaces x = new PatentRaces();
         for (int i = 1; i <= 25; i++) {
             due(20 * i, "feed " + i, () -> x.feed(0x20202020, 0x20202020, 0x20202020, 0x20202020, 0x20202020));
@@ -154,7 +86,7 @@ public final class PromisesTest {
     }
 
     private static void race() {
-        promise = 3;
+        about("promise 3");
         PatentRaces x = of(RING);
         x.rule(0, 1, 1, 1);
         x.offer(7);
@@ -197,7 +129,7 @@ public final class PromisesTest {
     }
 
     private static void fault() {
-        promise = 4;
+        about("promise 4");
         faulty("", 4, 0);
         faulty("   ", 4, 3);
         faulty("prize 5;  ", 4, 10);
@@ -268,15 +200,8 @@ public final class PromisesTest {
         due(-1, "fault()", x::fault);
     }
 
-    private static void faulty(String text, int kind, int place) {
-        PatentRaces x = new PatentRaces();
-        due(kind - 10, "race of \"" + text + "\"", () -> tell(x, text));
-        due(place, "fault() of \"" + text + "\"", x::fault);
-        due(0, "told(0) after \"" + text + "\"", () -> x.told(0));
-    }
-
     private static void told() {
-        promise = 5;
+        about("promise 5");
         PatentRaces x = of("shop 1;prize 9 second 8;weeks 1;learn 3 behind 2;prize 7;weeks 6;shop 2;");
         int[] due = {2, 6, 7, 0, 3, 2, 7};
         for (int i = 0; i < due.length; i++) {
@@ -299,7 +224,7 @@ public final class PromisesTest {
     }
 
     private static void shop() {
-        promise = 6;
+        about("promise 6");
         PatentRaces x = of("shop 4 pace 99 at 0 pace 0 at 4;shop3pace1at2pace3at4pace5at1;");
         int[][] due = {{4, 2, 99, 0, 0, 0, 4, 0}, {3, 3, 1, 3, 5, 2, 4, 1}};
         for (int s = 0; s < 2; s++) {
@@ -317,7 +242,7 @@ public final class PromisesTest {
     }
 
     private static void worth() {
-        promise = 7;
+        about("promise 7");
         PatentRaces x = of(ONE);
         due(8, "half of 10 less 3", () -> x.worth(1, 1, 1, 0));
         due(48, "(5 + 2/2 - 3) over 16", () -> x.worth(2, 1, 1, 0));
@@ -357,7 +282,7 @@ public final class PromisesTest {
     }
 
     private static void doing() {
-        promise = 8;
+        about("promise 8");
         PatentRaces x = of(RING);
         due(1, "doing", () -> x.doing(2, 21, 3, 0));
         due(1, "doing", () -> x.doing(2, 21, 3, 1));
@@ -390,7 +315,7 @@ public final class PromisesTest {
     }
 
     private static void gain() {
-        promise = 9;
+        about("promise 9");
         PatentRaces x = of(RING);
         due(320, "1.25 of 256", () -> x.gain(2, 21, 3));
         due(0, "it IS a REST", () -> x.gain(1, 21, 3));
@@ -403,7 +328,7 @@ public final class PromisesTest {
     }
 
     private static void unrest() {
-        promise = 10;
+        about("promise 10");
         PatentRaces x = of(RING);
         due(1, "unrest()", x::unrest);
         PatentRaces y = of(RING + "shop 3;");
@@ -413,7 +338,7 @@ public final class PromisesTest {
     }
 
     private static void rule() {
-        promise = 11;
+        about("promise 11");
         PatentRaces x = of(ONE);
         due(0, "rule", () -> x.rule(0, 4, 9, 4));
         due(4, "rule", () -> x.rule(0, 4, 9, 3));
@@ -436,7 +361,7 @@ public final class PromisesTest {
     }
 
     private static void follow() {
-        promise = 12;
+        about("promise 12");
         PatentRaces x = of(RING);
         x.rule(1, 2, 1, 1);
         x.rule(0, 3, 3, 3);
@@ -454,7 +379,7 @@ public final class PromisesTest {
     }
 
     private static void judged() {
-        promise = 13;
+        about("promise 13");
         PatentRaces x = of(RING);
         due(0, "all rest", () -> x.judged(0));
         x.follow();
@@ -479,7 +404,7 @@ public final class PromisesTest {
     }
 
     private static void breaks() {
-        promise = 14;
+        about("promise 14");
         PatentRaces x = of(RING);
         x.follow();
         // With two weeks (1, 2): pace 2 for pace 1; with one (1, 2): pace 2, and the other had better rest.
@@ -497,7 +422,7 @@ public final class PromisesTest {
     }
 
     private static void alone() {
-        promise = 15;
+        about("promise 15");
         PatentRaces x = of("shop 4 pace 1 at 4;shop 2 pace 1 at 2 pace 5 at 4;prize 40;weeks 2;learn 4 behind 1;");
         due(140, "35 of 4", () -> x.alone(1, 1, 1));
         due(584, "36.5 of 16", () -> x.alone(1, 2, 1));
@@ -514,7 +439,7 @@ public final class PromisesTest {
     }
 
     private static void best() {
-        promise = 16;
+        about("promise 16");
         PatentRaces x = of("shop 4 pace 1 at 4;shop 2 pace 1 at 2 pace 5 at 4;prize 40;weeks 2;learn 4 behind 1;");
         due(2, "best", () -> x.best(1, 1, 1));
         due(1, "best", () -> x.best(1, 2, 1));
@@ -531,7 +456,7 @@ public final class PromisesTest {
     }
 
     private static void answer() {
-        promise = 17;
+        about("promise 17");
         String text = "shop 1 pace 4 at 2;shop 2 pace 0 at 2;prize 16 second 4;weeks 2;";
         PatentRaces x = of(text);
         // The last week it is 7 + 0.5 - 4 = 3.5, whether the other has 1 STEP or 2; so -4 + 8 + 1.75.
@@ -551,7 +476,7 @@ public final class PromisesTest {
     }
 
     private static void first() {
-        promise = 18;
+        about("promise 18");
         PatentRaces x = of(RING);
         due(192, "1/2 + 1/4 of 256", () -> x.first(0));
         due(128, "1/2 of 256", () -> x.first(1));
@@ -567,21 +492,21 @@ public final class PromisesTest {
     }
 
     private static void late() {
-        promise = 19;
+        about("promise 19");
         due(384, "1.5 weeks of 256", () -> of(RING).late());
         due(24, "1.5 weeks of 16", () -> of(ONE).late());
         due(6 * 4096, "all six weeks", () -> of("shop 1;weeks 6;").late());
     }
 
     private static void waste() {
-        promise = 20;
+        about("promise 20");
         due(1152, "3 + 3/2 of 256", () -> of(RING).waste());
         due(72, "3 + 3/2 of 16", () -> of(ONE).waste());
         due(0, "nobody runs", () -> of("shop 1 pace 9 at 4;weeks 6;").waste());
     }
 
     private static void harder() {
-        promise = 21;
+        about("promise 21");
         due(1, "with two weeks the one behind pays 3, the other 0", () -> of(RING).harder());
         due(0, "one SHOP", () -> of(ONE).harder());
         // The second runs if it can come in time: with 2 STEPS to the other's 1 in weeks 3 and 2.
@@ -589,7 +514,7 @@ public final class PromisesTest {
     }
 
     private static void behind() {
-        promise = 22;
+        about("promise 22");
         due(2021, "behind()", () -> of(RING).behind());
         due(-1, "behind()", () -> of(ONE).behind());
         due(3021, "most weeks first", () -> of("shop 2;shop 2 pace 5 at 3;prize 90;weeks 3;").behind());
@@ -597,7 +522,7 @@ public final class PromisesTest {
     }
 
     private static void leavers() {
-        promise = 23;
+        about("promise 23");
         PatentRaces x = of(LEAVING);
         due(2, "where both others have the same", () -> x.leavers(2));
         due(0, "leavers(1)", () -> x.leavers(1));
@@ -608,7 +533,7 @@ public final class PromisesTest {
     }
 
     private static void joined() {
-        promise = 24;
+        about("promise 24");
         PatentRaces x = of("shop 3 pace 1 at 4 pace 2 at 1;shop 1 pace 2 at 3;shop 1 pace 5 at 4;prize 20;weeks 1;leave 1<0;");
         // SHOPS 0 and 1: 1 STEP, pace 3 at 4, pace 2 at 1; against SHOP 2: both run, 10 each.
         due((10 - 3) * 16, "joined(0, 1)", () -> x.joined(0, 1));
@@ -629,7 +554,7 @@ public final class PromisesTest {
     }
 
     private static void sold() {
-        promise = 25;
+        about("promise 25");
         String text = "shop 1 pace 2 at 4;shop 2 pace 1 at 4;prize 12;weeks 1;";
         PatentRaces x = of(text + "sell own<2;");
         // 10 as it is; then they part the prize: 4 and 5.
@@ -654,7 +579,7 @@ public final class PromisesTest {
     }
 
     private static void offer() {
-        promise = 26;
+        about("promise 26");
         PatentRaces x = new PatentRaces();
         for (int i = 1; i <= 9; i++) {
             int prize = i == 1 ? 0 : 9999;
@@ -667,7 +592,7 @@ public final class PromisesTest {
     }
 
     private static void king() {
-        promise = 27;
+        about("promise 27");
         PatentRaces x = of(ONE);
         due(-1, "none was told", () -> x.king(0));
         x.offer(10);
@@ -684,7 +609,7 @@ public final class PromisesTest {
     }
 
     private static void entry() {
-        promise = 28;
+        about("promise 28");
         PatentRaces x = of("shop 1 pace 1 at 4;shop 1 pace 1 at 4;prize 10;weeks 1;");
         due(2, "entry(4)", () -> x.entry(4));
         due(1, "entry(5)", () -> x.entry(5));
@@ -700,7 +625,7 @@ public final class PromisesTest {
     }
 
     private static void edge() {
-        promise = 29;
+        about("promise 29");
         due(7, "half of 7 is more than 3", () -> of("shop 1 pace 3 at 2;prize 5;weeks 2;").edge());
         due(-1, "edge()", () -> of(ONE).edge());
         due(11, "ten above", () -> of("shop 1 pace 5 at 2;prize 1;weeks 1;").edge());
@@ -714,7 +639,7 @@ public final class PromisesTest {
     }
 
     private static void run() {
-        promise = 30;
+        about("promise 30");
         PatentRaces x = of(ONE);
         // From seed 1 the first two draws are 2 and 2: no step.
         due(2, "run(1, 0)", () -> x.run(1, 0));
@@ -744,7 +669,7 @@ public final class PromisesTest {
     }
 
     private static void image() {
-        promise = 31;
+        about("promise 31");
         PatentRaces x = new PatentRaces();
         due(1, "image()", x::image);
         due(2, "image()", x::image);
@@ -754,7 +679,7 @@ public final class PromisesTest {
     }
 
     private static void restore() {
-        promise = 32;
+        about("promise 32");
         PatentRaces x = new PatentRaces();
         due(-1, "restore()", x::restore);
         x.image();
@@ -784,7 +709,7 @@ public final class PromisesTest {
     }
 
     private static void count() {
-        promise = 33;
+        about("promise 33");
         PatentRaces x = of(ONE);
         x.rule(0, 1, 1, 4);
         x.rule(0, 2, 1, 3);
@@ -804,49 +729,49 @@ public final class PromisesTest {
     /** IllegalStateException comes before all else that is wrong with a call. */
     private static void noRace() {
         PatentRaces x = new PatentRaces();
-        promise = 7;
+        about("promise 7");
         thrown(STATE, "worth", () -> x.worth(-1, -1, -1, -1));
-        promise = 8;
+        about("promise 8");
         thrown(STATE, "doing", () -> x.doing(-1, -1, -1, -1));
-        promise = 9;
+        about("promise 9");
         thrown(STATE, "gain", () -> x.gain(-1, -1, -1));
-        promise = 10;
+        about("promise 10");
         thrown(STATE, "unrest", x::unrest);
-        promise = 12;
+        about("promise 12");
         thrown(STATE, "follow", x::follow);
-        promise = 13;
+        about("promise 13");
         thrown(STATE, "judged", () -> x.judged(-1));
-        promise = 14;
+        about("promise 14");
         thrown(STATE, "breaks", x::breaks);
-        promise = 15;
+        about("promise 15");
         thrown(STATE, "alone", () -> x.alone(-1, -1, -1));
-        promise = 16;
+        about("promise 16");
         thrown(STATE, "best", () -> x.best(-1, -1, -1));
-        promise = 17;
+        about("promise 17");
         thrown(STATE, "answer", () -> x.answer(-1, -1));
-        promise = 18;
+        about("promise 18");
         thrown(STATE, "first", () -> x.first(-1));
-        promise = 19;
+        about("promise 19");
         thrown(STATE, "late", x::late);
-        promise = 20;
+        about("promise 20");
         thrown(STATE, "waste", x::waste);
-        promise = 21;
+        about("promise 21");
         thrown(STATE, "harder", x::harder);
-        promise = 22;
+        about("promise 22");
         thrown(STATE, "behind", x::behind);
-        promise = 23;
+        about("promise 23");
         thrown(STATE, "leavers", () -> x.leavers(-1));
-        promise = 24;
+        about("promise 24");
         thrown(STATE, "joined", () -> x.joined(-1, -1));
-        promise = 25;
+        about("promise 25");
         thrown(STATE, "sold", () -> x.sold(-1, -1));
-        promise = 27;
+        about("promise 27");
         thrown(STATE, "king", () -> x.king(-1));
-        promise = 28;
+        about("promise 28");
         thrown(STATE, "entry", () -> x.entry(-1));
-        promise = 29;
+        about("promise 29");
         thrown(STATE, "edge", x::edge);
-        promise = 30;
+        about("promise 30");
         thrown(STATE, "run", () -> x.run(0, -1));
     }
 }
