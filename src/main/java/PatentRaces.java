@@ -922,9 +922,11 @@ public final class PatentRaces {
                 demandWord("behind");
                 draft.behind = number(1, STEPS - 1);
             } else if (takeWord("sell")) {
-                readTerms(sell);
+                beginTerms(sell);
+                readChoice(0);
             } else if (takeWord("leave")) {
-                readTerms(leave);
+                beginTerms(leave);
+                readChoice(0);
             } else {
                 refuse(WRONG, at);
             }
@@ -954,10 +956,9 @@ public final class PatentRaces {
             }
         }
 
-        private void readTerms(Terms into) {
+        private void beginTerms(Terms into) {
             terms = into;
             terms.clear();
-            readChoice(0);
         }
 
         /** C; open: how many of ( [ not are open here. */
@@ -1120,7 +1121,7 @@ public final class PatentRaces {
         }
 
         private void skipBlanks() {
-            for (int i = 0; i < BYTES && signAt(at) == ' '; i++) {
+            while (at >= 0 && at < length && at < BYTES && tape[at] == ' ') {
                 at++;
             }
         }

@@ -3,6 +3,12 @@ import java.util.Arrays;
 /** The bounds of KING, ENTRY, EDGE, RUN and IMAGES (==== 4, promises 26 to 33), sentence by sentence. */
 public final class KingBoundsTest extends Checks {
     private static final String ONE = "shop 1 pace 3 at 2;prize 10;weeks 2;";
+
+    /**
+     * With two weeks left the first LEAVES, so that the third need not pay 2 to come ahead of it; by a
+     * PRIZE of 60 the third would run for a half of it, so the second can't wait: a week, and WASTE of 2.
+     */
+    private static final String AWAY = "shop 2;shop 1 pace 0 at 4;shop 2 pace 1 at 2 pace 2 at 4;prize 30 second 21;weeks 2;";
     private static final String CHICKEN = "shop 1 pace 6 at 4;shop 1 pace 7 at 4;prize 10;weeks 1;";
 
     public static void main(String[] args) {
@@ -126,6 +132,22 @@ public final class KingBoundsTest extends Checks {
         tell(x, "shop 1 pace 7 at 4;shop 1 pace 7 at 4;weeks 1;");
         due(5, "by 5 nobody runs: a week of 10", () -> x.king(10));
         due(5, "by 10 one runs, and the week is no shorter", () -> x.king(999));
+        PatentRaces away = of(AWAY);
+        away.offer(60);
+        away.offer(30);
+        due(30, "2 * 2 is no more than 2 + 2", () -> away.king(2));
+        due(60, "2 * 3 is more than 2 + 3", () -> away.king(3));
+        // The same RACE, but other PRIZES in the places of the old.
+        PatentRaces y = of(ONE);
+        y.image();
+        y.offer(10);
+        y.offer(0);
+        due(10, "4.5 + 1.5 * 10 is less than 2 * 10", () -> y.king(10));
+        y.restore();
+        y.offer(0);
+        due(0, "king(10)", () -> y.king(10));
+        y.offer(10);
+        due(10, "king(10)", () -> y.king(10));
     }
 
     // ---- ENTRY ----
@@ -199,6 +221,7 @@ public final class KingBoundsTest extends Checks {
         due(-1, "the beginning alone", () -> of("shop 2 pace 3 at 2;prize 5;weeks 1;").edge());
         // One SHOP's DOING is enough: the second runs beside the first if a whole half of the PRIZE is more than 7.
         due(16, "the second comes in, too", () -> of(CHICKEN).edge());
+        due(-1, "the same LEAVES by 31 to 40", () -> of(AWAY).edge());
         due(13, "another PACE", () -> of("shop 1 pace 4 at 2 pace 10 at 4;prize 12;weeks 1;").edge());
     }
 
@@ -267,7 +290,10 @@ public final class KingBoundsTest extends Checks {
         String[] texts = {"shop 2 pace 1 at 2;shop 1 pace 2 at 1;prize 90;weeks 6;", "shop 1 pace 0 at 1;shop 2;shop 2;prize 4 second 1;weeks 3;",
             "shop 2;shop 3 pace 2 at 2;shop 1 pace 1 at 1;prize 99;weeks 5;", "shop 2 pace 1 at 2;shop 4 pace 1 at 2;learn 2 behind 1;prize 99;weeks 6;",
             "shop 3 pace 1 at 1;shop 3 pace 5 at 3;shop 3 pace 2 at 2;learn 1 behind 1;prize 300 second 90;weeks 6;",
-            "shop 1 pace 0 at 2;shop 1;shop 1;prize 0 second 1;weeks 2;", "shop 4;"};
+            "shop 1 pace 0 at 2;shop 1;shop 1;prize 0 second 1;weeks 2;", "shop 4;",
+            AWAY,
+            "shop 3 pace 9 at 3;shop 3 pace 0 at 1;shop 1 pace 2 at 3;prize 3 second 1;weeks 2;",
+            "shop 2 pace 9 at 1 pace 9 at 2 pace 9 at 3;shop 1 pace 4 at 0 pace 4 at 1 pace 3 at 2;prize 90;weeks 6;"};
         for (String text : texts) {
             PatentRaces x = of(text);
             for (int k = 0; k < 40; k++) {
@@ -339,6 +365,12 @@ public final class KingBoundsTest extends Checks {
         int[] none = {6, 0, 0, 7};
         PatentRaces left = of("shop 1 pace 0 at 4;shop 2;shop 2;prize 4 second 1;weeks 1;");
         int[] gone = {1, 1, 0, 3};
+        // The first LEAVES at once, the second has it in the last week.
+        PatentRaces first = of(AWAY);
+        int[] others = {2, 2, 0, 6};
+        // The third PACE is the best.
+        PatentRaces third = of("shop 1 pace 9 at 1 pace 9 at 2 pace 8 at 4;prize 90;weeks 1;");
+        int[] eight = {1, 1, 8, 1};
         PatentRaces four = of("shop 4 pace 99 at 4;prize 9999;");
         int[] all = {4, 1, 396, 1};
         for (int what = 0; what < 4; what++) {
@@ -346,6 +378,8 @@ public final class KingBoundsTest extends Checks {
             due(none[w], "nobody runs: run(0, " + w + ")", () -> rest.run(0, w));
             due(gone[w], "one has left: run(0, " + w + ")", () -> left.run(0, w));
             due(all[w], "four weeks: run(0, " + w + ")", () -> four.run(0, w));
+            due(others[w], "the first has left: run(0, " + w + ")", () -> first.run(0, w));
+            due(eight[w], "by the third PACE: run(0, " + w + ")", () -> third.run(0, w));
         }
     }
 

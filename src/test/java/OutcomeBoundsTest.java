@@ -236,6 +236,10 @@ public final class OutcomeBoundsTest extends Checks {
         // Of three one that has fewer STEPS, and pays less, will do.
         PatentRaces three = of("shop 1 pace 9 at 1;shop 2 pace 4 at 4;shop 1;prize 90;weeks 2;leave 1<0;");
         due(2121, "more than the third", three::behind);
+        // In the last week, for a part of the second: (1, 1, 2), (1, 2, 2) and (1, 2, 3).
+        PatentRaces last = of("shop 1 pace 0 at 4;shop 2;shop 3 pace 5 at 4;prize 9 second 20;weeks 1;leave 1<0;");
+        due(3, "the last week counts, too", last::harder);
+        due(1211, "the last week counts, too", last::behind);
         due(0, "one SHOP alone", () -> of("shop 4 pace 3 at 4;prize 99;weeks 6;").harder());
     }
 
@@ -260,6 +264,12 @@ public final class OutcomeBoundsTest extends Checks {
             dueOrThrown(shop >= 0 && shop <= 2, shop == 2 ? 2 : 0, ELEMENT, "leavers(" + shop + ")", () -> x.leavers(shop));
         }
         due(0, "leave never holds", () -> of(LEAVING + "leave 1<0;").leavers(2));
+        // With two weeks left: if it stays the third pays 2 to come ahead of it, and the sum is less by that.
+        PatentRaces two = of("shop 2;shop 1 pace 0 at 4;shop 2 pace 1 at 2 pace 2 at 4;prize 30 second 21;weeks 2;");
+        due(4, "it LEAVES", () -> two.doing(2, 212, 7, 0));
+        due(0, "the last week", () -> two.doing(1, 212, 7, 0));
+        due(2, "the last week", () -> two.doing(1, 212, 7, 2));
+        check(two.leavers(0) >= 1, "leavers(0) is " + two.leavers(0));
         due(1, "leave holds with 1 STEP alone", () -> of(LEAVING + "leave own=1;").leavers(2));
         due(0, "one alone has no more by LEAVE than by rest", () -> of("shop 4 pace 9 at 1;weeks 6;").leavers(0));
         thrown(ELEMENT, "leavers(1) of one", () -> of("shop 1;").leavers(1));

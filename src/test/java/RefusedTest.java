@@ -74,6 +74,7 @@ public final class RefusedTest extends Checks {
         PatentRaces x = made.make();
         PatentRaces y = made.make();
         List<Question> calls = new ArrayList<>();
+        // What is added to n lies beyond the bound; from MOST on it wraps to below 0, and is refused as well.
         for (int n : new int[] {LEAST, -1, 501, 1000, MOST}) {
             calls.add(z -> z.race(n));
             calls.add(z -> z.told(n));
@@ -119,7 +120,6 @@ public final class RefusedTest extends Checks {
             Question call = calls.get(k);
             String got = answer(() -> call.of(x));
             boolean one = got.equals(STATE.getName()) || got.equals(ARGUMENT.getName()) || got.equals(ELEMENT.getName());
-            // MOST + 4000 wraps to below 0 and is refused as well.
             check(one, "call " + k + " answered " + got);
         }
         alike(x, y);

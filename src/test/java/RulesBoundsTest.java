@@ -254,11 +254,17 @@ public final class RulesBoundsTest extends Checks {
 
     private static void breaksCounted() {
         about("STATES (of all weeks and STEPS from 1 to what the RACE begins with, all IN)");
+        breaksCounted("");
+        // By rest alone it has more, and not by LEAVING.
+        breaksCounted("leave 1<0;");
+    }
+
+    private static void breaksCounted(String leave) {
         String text = "";
         for (int shops = 1; shops <= 3; shops++) {
             text += "shop 4 pace 1 at 0;";
             for (int weeks = 1; weeks <= 6; weeks++) {
-                PatentRaces x = of(text + "weeks " + weeks + ";");
+                PatentRaces x = of(text + leave + "weeks " + weeks + ";");
                 due(0, "all rest", x::breaks);
                 for (int own = 1; own <= 4; own++) {
                     for (int next : NEXTS) {
@@ -271,7 +277,7 @@ public final class RulesBoundsTest extends Checks {
                 due(states - weeks, "but with 4 to 4 it rests", x::breaks);
             }
         }
-        PatentRaces y = of("shop 3 pace 1 at 0;shop 2;weeks 2;");
+        PatentRaces y = of("shop 3 pace 1 at 0;shop 2;weeks 2;" + leave);
         for (int own = 1; own <= 4; own++) {
             for (int next : NEXTS) {
                 y.rule(0, own, next, 1);
@@ -422,6 +428,15 @@ public final class RulesBoundsTest extends Checks {
         due(1 * 64, "12 / 3 - 3", () -> x.answer(2, 1));
         due(9 * 64, "the others have no second PACE", () -> x.answer(2, 2));
         due(9 * 64, "the others have no third PACE", () -> x.answer(2, 3));
+        about("prize and second as above");
+        int[][] seconds = {{1, 2, 8}, {2, 2, 4}, {3, 2, 0}, {4, 2, 0}, {2, 3, 8}, {3, 3, 4}, {4, 4, 4}, {4, 3, 0}};
+        for (int[] s : seconds) {
+            PatentRaces behind = of("shop " + s[0] + ";shop 1 pace 0 at 4;shop " + s[1] + ";prize 9 second 8;weeks 1;");
+            due(64L * s[2], "the second with " + s[0] + " to " + s[1], () -> behind.answer(0, 1));
+            due(0, "the other rests", () -> behind.answer(0, 0));
+            PatentRaces last = of("shop " + s[1] + ";shop 1 pace 0 at 4;shop " + s[0] + ";prize 9 second 8;weeks 1;");
+            due(64L * s[2], "the second with " + s[0] + " to " + s[1], () -> last.answer(2, 1));
+        }
         about("nobody learns, or leaves");
         PatentRaces y = of("shop 1 pace 0 at 4;shop 1;shop 2 pace 0 at 1;learn 3 behind 1;prize 16;weeks 2;");
         due(16 / 16 * 4096, "two quarters", () -> y.answer(2, 0));
@@ -440,6 +455,12 @@ public final class RulesBoundsTest extends Checks {
         }
         PatentRaces y = of("shop 1 pace 3 at 2;prize 5;weeks 6;");
         due(0, "it may rest", () -> y.answer(0, 0));
+        PatentRaces four = of("shop 4 pace 1 at 4;shop 4 pace 9 at 4;prize 99;");
+        due(95L << 16, "four STEPS", () -> four.answer(0, 0));
+        due(63L << 16, "four STEPS of the other one", () -> four.answer(1, 0));
+        due(95L << 16, "four STEPS once more", () -> four.answer(0, 0));
+        due(45L << 16, "49 - 4", () -> four.answer(0, 1));
+        due(13L << 16, "49 - 36", () -> four.answer(1, 1));
         PatentRaces z = of("shop 1 pace 0 at 4;shop 1;shop 1;prize 9999;weeks 6;");
         due(9999L << 36, "the greatest SCALE", () -> z.answer(0, 3));
     }

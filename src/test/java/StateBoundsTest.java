@@ -470,6 +470,15 @@ public final class StateBoundsTest extends Checks {
                 due(byGains(y), "unrest() by the GAINS", y::unrest);
             }
         }
+        // In the last week: by rest of the second the third runs (2 > 0), then the second had better run (12.25 > 10),
+        // then the third rests (5.25 > 4.75), then the second too (21 > 20.5). (1, 1, 0) has a GAIN of 0.5, and 59.75.
+        PatentRaces last = of("shop 1 pace 0 at 4;shop 3 pace 0 at 1 pace 5 at 2;shop 3 pace 8 at 4;prize 39 second 21;weeks 1;");
+        rowIs(last, 1, 211, 7, 1, 1, 0);
+        due(32, "0.5 of 64", () -> last.gain(1, 211, 7));
+        due(34 * 64, "39 * 3/4 + 19 / 4", () -> last.worth(1, 211, 7, 0));
+        due(41 * 32, "19 / 4 + 21 * 3/4", () -> last.worth(1, 211, 7, 1));
+        due(21 * 16, "21 / 4", () -> last.worth(1, 211, 7, 2));
+        due(1, "the last week counts, too", last::unrest);
         due(0, "one SHOP is always at rest", () -> of("shop 4 pace 1 at 3 pace 5 at 4;prize 50;weeks 6;").unrest());
         due(1, "with two weeks, and both IN", () -> of(ring + "weeks 2;").unrest());
         due(1 + 1, "a third with one STEP, IN or not", () -> of(ring + "weeks 2;shop 1;").unrest());

@@ -369,7 +369,7 @@ public final class TextBoundsTest extends Checks {
         of("shop 1;sell not not not not not not 1<1 and not not not not not not 1<1 or not not not not not not 1<1;");
         of("shop 1;sell not not not not not not 1<1 or[[[[[[1<1]]]]]];");
         of("shop 1;sell not 1<1 and((((((1))))))<1;");
-        of("shop 1;sell [not 1<1 and((((((1)))))<1)]".replace("((((((1)))))<1)", "(((((1)))))<1") + ";");
+        of("shop 1;sell [not 1<1 and(((((1)))))<1];");
         faulty("sell [not 1<1 and ((((((", 3, 23);
         faulty("sell not 1<((((((1))))))and 1<1;", 3, 16);
         faulty("sell not ((((((1))))))<1;", 3, 14);
@@ -637,6 +637,23 @@ public final class TextBoundsTest extends Checks {
         sells(true, "[[[[[[1=1]]]]]]");
         sells(true, "1=2 and 1=2 or 1=1 and 1=1");
         sells(false, "not not not not not[1=1]");
+        // Each relation under not, and beside each other one.
+        String[] holding = {"1<2", "2>1", "1=1"};
+        String[] failing = {"2<1", "1>2", "1=2"};
+        for (int i = 0; i < 3; i++) {
+            sells(false, "not " + holding[i]);
+            sells(true, "not " + failing[i]);
+            for (int k = 0; k < 3; k++) {
+                sells(true, holding[i] + " and " + holding[k]);
+                sells(false, holding[i] + " and " + failing[k]);
+                sells(false, failing[i] + " and " + holding[k]);
+                sells(true, holding[i] + " or " + holding[k]);
+                sells(true, failing[i] + " or " + holding[k]);
+                sells(false, failing[i] + " or " + failing[k]);
+                sells(false, "not[" + holding[i] + " or " + failing[k] + "]");
+                sells(false, "not[" + holding[i] + " and " + holding[k] + "]");
+            }
+        }
     }
 
     private static void manyTerms() {
@@ -693,6 +710,13 @@ public final class TextBoundsTest extends Checks {
         due(0, "rule", () -> x.rule(1, 3, 1, 0));
         due(1, "the PRIZES stay", () -> x.count(1));
         due(1, "the IMAGES stay", () -> x.count(2));
+        PatentRaces y = of("shop 1 pace 3 at 4;prize 9;weeks 1;");
+        y.rule(0, 1, 9, 1);
+        due(24, "9 - 3", () -> y.judged(0));
+        due(0, "breaks()", y::breaks);
+        tell(y, "shop 1 pace 3 at 4;prize 9;weeks 1;");
+        due(0, "judged by rest", () -> y.judged(0));
+        due(1, "rest breaks", y::breaks);
     }
 
     private static String picture(PatentRaces x) {
@@ -763,7 +787,13 @@ public final class TextBoundsTest extends Checks {
         }
         tell(x, "shop 1;");
         thrown(ELEMENT, "a SHOP of another RACE", () -> x.shop(1, 0));
+        thrown(ARGUMENT, "STEPS of a SHOP of another RACE", () -> x.worth(4, 11, 1, 0));
+        thrown(ARGUMENT, "STEPS of a SHOP of another RACE", () -> x.gain(4, 101, 1));
+        due(0, "PACES of another RACE", () -> x.shop(0, 1));
+        due(0, "a COST of another RACE", () -> x.shop(0, 2));
+        due(0, "a CHANCE of another RACE", () -> x.shop(0, 5));
         tell(x, "shop 1 pace 1 at 1;");
+        due(1, "PACES", () -> x.shop(0, 1));
         due(0, "a PACE of another RACE", () -> x.shop(0, 3));
         due(0, "a PACE of another RACE", () -> x.shop(0, 6));
     }
