@@ -482,8 +482,13 @@ public final class TextBoundsTest extends Checks {
         due(0, "the last sell holds", () -> of("shop 2;shop 2;sell 1=2;sell 1=1;").sold(0, 1));
         due(0, "sell is not leave", () -> of("shop 2;shop 2;sell 1=1;leave 1=2;").sold(0, 1));
         due(-1, "leave is not sell", () -> of("shop 2;shop 2;leave 1=1;").sold(0, 1));
+        due(0, "sell behind leave", () -> of("shop 2;shop 2;leave 1=2;sell 1=1;").sold(0, 1));
+        due(-1, "sell behind leave", () -> of("shop 2;shop 2;leave 1=1;sell 1=2;").sold(0, 1));
         String leaving = "shop 1 pace 0 at 4;shop 2;shop 2;prize 4 second 1;weeks 1;";
         due(0, "the last leave does not hold", () -> of(leaving + "leave 1=1;leave 1=2;").doing(1, 221, 7, 2));
+        due(4, "sell behind leave", () -> of(leaving + "leave 1=1;sell 1=2;").doing(1, 221, 7, 2));
+        due(0, "sell behind leave", () -> of(leaving + "leave 1=2;sell 1=1;").doing(1, 221, 7, 2));
+        due(4, "sell ahead of leave", () -> of(leaving + "sell 1=2;leave 1=1;").doing(1, 221, 7, 2));
         due(4, "the last leave holds", () -> of(leaving + "leave 1=2;leave 1=1;").doing(1, 221, 7, 2));
         due(4, "weeks and prize are 1 and 4", () -> of("weeks 6;prize 0;" + leaving).doing(1, 221, 7, 2));
         PatentRaces y = of("shop 2;shop 2;sell 1=1;");
